@@ -70,7 +70,7 @@ public final class PalletWrapper {
         historyCount = 0;
         text = new Text();
         draft = new Program();
-        course = new Course(draft);
+        course = new Course();
         layersPlanned = new int[MOST_ZONES];
     }
 
@@ -613,8 +613,8 @@ public final class PalletWrapper {
         int tension;
         int stretch;
 
-        Course(Program first) {
-            program = first;
+        Course() {
+            program = new Program();
         }
 
         void begin(Program newProgram, int newTop) {

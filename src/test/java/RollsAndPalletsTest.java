@@ -1,3 +1,4 @@
+import java.util.List;
 import java.util.function.Consumer;
 
 /** Promises 1 to 10. */
@@ -22,6 +23,7 @@ final class RollsAndPalletsTest {
         set();
         undo();
         undoOfEachChange();
+        undoAnywhere();
         count();
     }
 
@@ -97,6 +99,36 @@ final class RollsAndPalletsTest {
         for (int weak = 3; weak <= 8; weak++) {
             Checks.due("weaken(0, " + weak + ", 9)", x.weaken(0, weak, 9), weak);
         }
+        weakenInAnyOrder();
+        weakenAfterUndo();
+    }
+
+    private static void weakenInAnyOrder() {
+        PalletWrapper x = new PalletWrapper();
+        x.addRoll(1000, 5);
+        int[] places = {500, 300, 100, 200, 400, 600};
+        for (int place : places) {
+            x.weaken(0, place, place / 10);
+        }
+        Wrappers.program(x, "tension 0, stay 1");
+        for (int place = 100; place <= 600; place += 100) {
+            Checks.due("roll(0, 4)", x.roll(0, 4), place);
+            Checks.due("roll(0, 5)", x.roll(0, 5), place / 10);
+            x.addPallet(50, 50, 10, 0, 0);
+            x.wrap();
+        }
+        Checks.due("roll(0, 4)", x.roll(0, 4), NOT_FOUND);
+    }
+
+    private static void weakenAfterUndo() {
+        PalletWrapper x = new PalletWrapper();
+        x.addRoll(1000, 5);
+        x.undo();
+        Checks.due("weaken(0, 5, 5) after undo()", x.weaken(0, 5, 5), INVALID);
+        x.addRoll(1000, 5);
+        x.addRoll(1000, 5);
+        x.undo();
+        Checks.due("weaken(1, 5, 5) after undo()", x.weaken(1, 5, 5), INVALID);
     }
 
     private static void weakenErrors() {
@@ -160,6 +192,22 @@ final class RollsAndPalletsTest {
         Checks.due("roll(0, -1)", x.roll(0, -1), INVALID);
         Checks.due("roll(0, 6)", x.roll(0, 6), INVALID);
         weakPlaceAtThePosition();
+        rollInPlaceOfAnother();
+    }
+
+    private static void rollInPlaceOfAnother() {
+        PalletWrapper x = new PalletWrapper();
+        x.addRoll(150, 5);
+        x.weaken(0, 140, 7);
+        wrapOneTurn(x);
+        x.addPallet(50, 50, 10, 5000, 0);
+        x.wrap();
+        Checks.due("roll(0, 0) of a roll that is gone", x.roll(0, 0), INVALID);
+        x.addRoll(300, 6);
+        int[] due = {300, 6, 0, 0, NOT_FOUND, NOT_FOUND};
+        for (int what = 0; what <= 5; what++) {
+            Checks.due("roll(0, " + what + ")", x.roll(0, what), due[what]);
+        }
     }
 
     private static void weakPlaceAtThePosition() {
@@ -331,6 +379,35 @@ final class RollsAndPalletsTest {
         x.wrap();
         Wrappers.retype(x, "stay 1, up 5");
         x.set(0, 20);
+    }
+
+    private static final List<Consumer<PalletWrapper>> CHANGES = List.of(
+        y -> y.addRoll(450, 3), y -> y.weaken(0, 250, 10), y -> y.weaken(0, 240, 199), y -> y.addRoll(160, 7),
+        y -> y.weaken(0, 245, 50), y -> y.weaken(1, 155, 6), y -> y.addRoll(3000, 11),
+        y -> y.addPallet(50, 50, 60, 150, 3), y -> y.addPallet(20, 20, 10, 150, 9), y -> y.addPallet(30, 20, 20, 90, 1),
+        y -> y.load(), y -> y.wrap(), y -> y.set(0, 9), y -> y.wrap(), y -> y.weaken(0, 1000, 1),
+        y -> y.weaken(0, 500, 1), y -> y.set(1, 0), y -> y.addPallet(90, 200, 30, 4000, 7),
+        y -> y.addPallet(70, 60, 50, 0, 7), y -> y.drop(1), y -> y.wrap(), y -> y.wrap(),
+        y -> y.addPallet(200, 200, 40, 700, 7), y -> y.wrap(), y -> y.addPallet(200, 200, 30, 5000, 8), y -> y.wrap(),
+        y -> y.addPallet(20, 200, 20, 5000, 8), y -> y.wrap(), y -> y.addPallet(60, 200, 20, 200, 8),
+        y -> y.addRoll(100, 1), y -> y.wrap());
+
+    /** Each change in a long row of them is undone; then all is as if it had not been made. */
+    private static void undoAnywhere() {
+        Checks.promise(9);
+        for (int last = 0; last < CHANGES.size(); last++) {
+            PalletWrapper x = new PalletWrapper();
+            PalletWrapper other = new PalletWrapper();
+            Wrappers.type(x, "stay 3, up 9, down 5");
+            Wrappers.type(other, "stay 3, up 9, down 5");
+            for (int i = 0; i < last; i++) {
+                CHANGES.get(i).accept(x);
+                CHANGES.get(i).accept(other);
+            }
+            CHANGES.get(last).accept(x);
+            Checks.due("undo() of change " + last, x.undo(), Math.min(3, last));
+            Checks.due("what is seen after undo() of change " + last, Wrappers.seen(x), Wrappers.seen(other));
+        }
     }
 
     private static void count() {

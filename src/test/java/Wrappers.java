@@ -38,11 +38,11 @@ final class Wrappers {
         return text.toString();
     }
 
-    /** All that can be asked, but the zones, in at most 400 calls. */
+    /** All that is restored by undo, and the text; with low pallets some 400 calls at the most. */
     static String seen(PalletWrapper x) {
         StringBuilder seen = new StringBuilder();
         for (int what = 0; what <= 8; what++) {
-            seen.append(x.count(what)).append(' ');
+            seen.append(what == 6 ? 0 : x.count(what)).append(' ');
         }
         seen.append("\nrolls");
         for (int roll = 0; roll < x.count(0); roll++) {
@@ -65,6 +65,9 @@ final class Wrappers {
             for (int what = 0; what <= 12; what++) {
                 seen.append(' ').append(x.done(index, what));
             }
+            for (int zone = 0; zone < x.done(index, 12); zone++) {
+                seen.append(' ').append(x.zone(index, zone, 0)).append(':').append(x.zone(index, zone, 1));
+            }
         }
         seen.append("\ntotals");
         for (int what = 0; what <= 9; what++) {
@@ -81,6 +84,7 @@ final class Wrappers {
         before.accept(other);
         Checks.due(name, call.applyAsInt(called), error);
         Checks.due("what is seen after " + name, seen(called), seen(other));
+        Checks.due("count(6) after " + name, called.count(6), other.count(6));
         Checks.due("undo() after " + name, called.undo(), other.undo());
         Checks.due("what is seen after " + name + " and undo()", seen(called), seen(other));
     }

@@ -90,6 +90,30 @@ final class WrappingTest {
         comesTo(x, "a little higher", 0, 7, 0, 700, 0, 0, 0, 4, 392, 35);
         layersAre(x, "a little higher", 7, 7, 7, 7, 7, 4);
         edgesOfZones();
+        initialTensionAndStretch();
+        otherTexts();
+    }
+
+    private static void initialTensionAndStretch() {
+        PalletWrapper x = Wrappers.withProgram("stay 1, stretch 0, tension 100");
+        x.addRoll(5000, 2);
+        x.addPallet(200, 200, 30, 5000, 0);
+        x.addPallet(200, 200, 30, 5000, 0);
+        comesTo(x, "the first one", 0, 1, 0, 400, 0, 0, 0, 1, 56, 20);
+        comesTo(x, "and the next one", 0, 1, 0, 400, 0, 0, 0, 1, 56, 20);
+    }
+
+    /** Neither a text that is only looked at nor a plan is the program. */
+    private static void otherTexts() {
+        PalletWrapper x = Wrappers.withProgram("stay 3");
+        Wrappers.retype(x, "stay 1");
+        x.fault();
+        x.addRoll(5000, 2);
+        x.addPallet(50, 50, 30, 5000, 0);
+        x.addPallet(50, 50, 30, 5000, 0);
+        comesTo(x, "after fault()", 0, 3, 0, 300, 0, 0, 0, 3, 168, 15);
+        x.riseFor(1);
+        comesTo(x, "after riseFor(1)", 0, 3, 0, 300, 0, 0, 0, 3, 168, 15);
     }
 
     private static void edgesOfZones() {
@@ -98,6 +122,11 @@ final class WrappingTest {
         x.addPallet(50, 50, 60, 5000, 0);
         comesTo(x, "at a zone's edge", 0, 2, 0, 200, 0, 0, 0, 0, 112, 10);
         layersAre(x, "at a zone's edge", 0, 2, 2, 2, 2, 2);
+        Wrappers.program(x, "up 10, down 100, up 10");
+        x.addPallet(50, 50, 60, 5000, 0);
+        // At 10; 0, as there is nothing below; 10 again.
+        comesTo(x, "down to the floor", 0, 3, 0, 300, 0, 0, 0, 1, 168, 15);
+        layersAre(x, "down to the floor", 1, 3, 3, 3, 3, 2);
         Wrappers.program(x, "up 9, up 100");
         x.addPallet(50, 50, 70, 5000, 0);
         // At 9, 18, 20; then none.
@@ -109,7 +138,7 @@ final class WrappingTest {
         Checks.promise(18);
         int[][] rows = {{50, 50, 100, 100, 5}, {50, 50, 300, 50, 5}, {50, 50, 0, 200, 5}, {51, 50, 100, 101, 6},
             {50, 50, 50, 134, 5}, {20, 20, 300, 20, 2}, {200, 200, 0, 800, 20}, {21, 20, 300, 21, 3},
-            {60, 60, 100, 120, 6}, {60, 61, 100, 121, 7}};
+            {60, 60, 100, 120, 6}, {60, 61, 100, 121, 7}, {200, 200, 100, 400, 20}};
         for (int[] row : rows) {
             PalletWrapper x = Wrappers.withProgram("stretch " + row[2] + ", stay 1");
             x.addRoll(1000, 7);
@@ -325,6 +354,9 @@ final class WrappingTest {
             Checks.due("ifWrap(" + what + ")", x.ifWrap(what), due[what]);
         }
         Checks.due("what is seen after ifWrap", Wrappers.seen(x), before);
+        for (int again = 0; again < 70; again++) {
+            Checks.due("ifWrap(" + again % 10 + ") once more", x.ifWrap(again % 10), due[again % 10]);
+        }
         Consumer<PalletWrapper> one = y -> y.addPallet(50, 50, 100, 150, 3);
         Wrappers.refused("ifWrap(-1)", one, y -> y.ifWrap(-1), INVALID);
         Wrappers.refused("ifWrap(10)", one, y -> y.ifWrap(10), INVALID);
