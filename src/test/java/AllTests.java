@@ -9,6 +9,15 @@ public final class AllTests {
         ProgramTest.run();
         WrappingTest.run();
         PlansTest.run();
+        RollEdgesTest.run();
+        PalletEdgesTest.run();
+        ProgramEdgesTest.run();
+        TextEdgesTest.run();
+        TurnEdgesTest.run();
+        DoneEdgesTest.run();
+        PlanEdgesTest.run();
+        HistoryEdgesTest.run();
+        SentencesTest.run();
         RandomRunsTest.run();
         System.out.println(Checks.passed() + " checks passed, " + Checks.failed() + " checks failed");
         System.exit(Checks.failed() == 0 && Checks.passed() > 0 ? 0 : 1);
