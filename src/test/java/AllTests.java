@@ -3,7 +3,11 @@ public final class AllTests {
     private AllTests() {
     }
 
+    /** Far above what all tests take; a program whose call does not end is a failure, too. */
+    private static final long MOST_MILLISECONDS = 300000;
+
     public static void main(String[] args) {
+        endInAnyCase();
         FaceTest.run();
         RollsAndPalletsTest.run();
         ProgramTest.run();
@@ -21,5 +25,19 @@ public final class AllTests {
         RandomRunsTest.run();
         System.out.println(Checks.passed() + " checks passed, " + Checks.failed() + " checks failed");
         System.exit(Checks.failed() == 0 && Checks.passed() > 0 ? 0 : 1);
+    }
+
+    private static void endInAnyCase() {
+        Thread watchdog = new Thread(() -> {
+            try {
+                Thread.sleep(MOST_MILLISECONDS);
+            } catch (InterruptedException ended) {
+                return;
+            }
+            System.out.println("the tests do not end");
+            System.exit(1);
+        });
+        watchdog.setDaemon(true);
+        watchdog.start();
     }
 }

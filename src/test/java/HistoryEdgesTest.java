@@ -118,8 +118,8 @@ final class HistoryEdgesTest {
         Checks.sentence(10, "Returns a number.");
         Checks.sentence(10, "`what`: 0: rolls; 1: waiting pallets; 2: pallets that are done; 3: steps of the program; 4 and "
             + "5: the settings; 6: states in the history; 7: the length of the text; 8: the time");
-        // Two pallets are done, after a time of 10 and of 12.
-        int[] due = {2, 2, 2, 2, 25, 2, 4, 14, 22};
+        // Two pallets are done: three turns of 5, and one of 6.
+        int[] due = {2, 2, 2, 2, 25, 2, 4, 14, 21};
         for (int what = 0; what <= 8; what++) {
             int asked = what;
             Checks.sentence(10, "Returns the number");

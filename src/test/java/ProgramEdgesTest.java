@@ -93,6 +93,7 @@ final class ProgramEdgesTest {
         turnsAt("up 30, up 1", 80, 30);
         turnsAt("up 30, up 100", 80, 30);
         turnsAt("up 30, down 29, up 100", 80, 30, 1, 0, 30);
+        turnsAt("up 29, down 20, up 29", 80, 29, 30, 10, 0, 29, 30);
     }
 
     private static void downToTheFloor() {
@@ -106,6 +107,8 @@ final class ProgramEdgesTest {
         turnsAt("up 50, down 51", 100, 50, 0);
         turnsAt("up 50, down 100", 100, 50, 0);
         turnsAt("up 3, down 1", 53, 3, 2, 1, 0);
+        turnsAt("up 50, down 49, up 20", 100, 50, 1, 0, 20, 40, 50);
+        turnsAt("up 50, down 100, up 9, down 100, up 29", 100, 50, 0, 9, 18, 27, 36, 45, 50, 0, 29, 50);
         turnsAt("up 1, down 100", 51, 1, 0);
         turnsAt("up 100, down 100", 250, 100, 200, 100, 0);
         turnsAt("up 100, down 99", 250, 100, 200, 101, 2, 0);

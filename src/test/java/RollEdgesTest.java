@@ -375,7 +375,7 @@ final class RollEdgesTest {
         Checks.sentence(4, "Returns a property of a roll.");
         Checks.sentence(4, "`what`: 0: its length; 1: its weight for each centimetre; 2: its position; 3: the number of "
             + "its weak places behind its position; 4: the next weak place behind its position; 5: the strength of that one");
-        int[][] due = {{1000, 5, 440, 1, 600, 30}, {700, 9, 0, 1, 300, 10}};
+        int[][] due = {{1000, 5, 420, 1, 600, 30}, {700, 9, 0, 1, 300, 10}};
         Checks.sentence(4, "`roll`: 0 for the present roll, and so on");
         for (int roll = 0; roll <= 1; roll++) {
             int asked = roll;

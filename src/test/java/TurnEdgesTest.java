@@ -228,6 +228,7 @@ final class TurnEdgesTest {
         Wrappers.program(x, "tension 0, stay 1, tension 9, stay 5");
         x.addPallet(50, 50, 30, 0, 0);
         comesTo(x, "no roll, and skipped later", 1, 0, 0, 0, 0, 0, 0, 0, 0, 0);
+        totalsAre(x, "four of them given up", 0, 0, 0, 0, 0, 0, 0, 0, 1, 4);
     }
 
     private static void rests() {

@@ -141,8 +141,9 @@ final class Wrappers {
     }
 
     /**
-     * Some of everything: the first of two rolls is drawn from up to 440 (a weak place is before that), two
-     * pallets wait, two are done, the text is not that of the program, and the history is full.
+     * Some of everything: the first of two rolls is drawn from up to 420 (a weak place is before that), two
+     * pallets wait, two are done (zones differ, a turn was skipped), the text is not that of the program, and
+     * the history is full.
      */
     static void some(PalletWrapper x) {
         x.addRoll(1000, 5);
@@ -151,9 +152,9 @@ final class Wrappers {
         x.addRoll(700, 9);
         x.weaken(1, 300, 10);
         program(x, "stay 2, up 20");
-        x.addPallet(50, 50, 30, 5000, 4);
+        x.addPallet(50, 50, 70, 5000, 4);
         x.addPallet(50, 50, 70, 150, 6);
-        x.addPallet(60, 60, 40, 90, 5);
+        x.addPallet(60, 60, 40, 56, 5);
         x.addPallet(70, 60, 110, 900, 6);
         x.set(0, 25);
         x.wrap();
