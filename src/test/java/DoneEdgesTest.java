@@ -25,6 +25,92 @@ final class DoneEdgesTest {
         totals();
         totalRefused();
         weights();
+        allIsRestored();
+        nothingIsLeftOver();
+    }
+
+    /**
+     * Two pallets are done. The first one breaks at 50, 110 and 145, and bears 59: turns by 56, 2 and 1, and two that
+     * are skipped; the roll is drawn up to 475. The second one needs 400: tails of 10 and 399, a break at 100, tails of
+     * 370, 100 and 100; it is given up. So all sums are different.
+     */
+    private static void allDifferent(PalletWrapper x) {
+        Wrappers.program(x, "stay 5");
+        int[] lengths = {485, 399, 500, 100, 100};
+        for (int i = 0; i < lengths.length; i++) {
+            x.addRoll(lengths[i], 7 + i);
+        }
+        x.weaken(0, 50, 0);
+        x.weaken(0, 110, 0);
+        x.weaken(0, 145, 0);
+        x.weaken(2, 100, 0);
+        x.addPallet(50, 50, 30, 59, 0);
+        x.addPallet(200, 200, 40, 5000, 0);
+        x.wrap();
+        x.wrap();
+    }
+
+    private static void allDifferentIs(PalletWrapper x, String name) {
+        int[] totals = {1584, 300, 979, 185, 120, 4, 5, 3, 2, 1};
+        for (int what = 0; what <= 9; what++) {
+            Checks.due("total(" + what + ") " + name, x.total(what), totals[what]);
+        }
+        int[] latest = {1, 1, 0, 0, 0, 979 + 100 + 30, 1, 5, 0, 0, 40 + 300, 0, 4};
+        int[] before = {0, 0, 3, 2, 300, 85 + 90, 3, 0, 3, 59, 15 + 120, 2100, 3};
+        for (int what = 0; what <= 12; what++) {
+            Checks.due("done(0, " + what + ") " + name, x.done(0, what), latest[what]);
+            Checks.due("done(1, " + what + ") " + name, x.done(1, what), before[what]);
+        }
+        Checks.due("count(8) " + name, x.count(8), 135 + 340);
+        Checks.due("weight() " + name, x.weight(), 2100);
+    }
+
+    private static void allIsRestored() {
+        Checks.sentence(0, "each change records everything before it but the text");
+        PalletWrapper x = new PalletWrapper();
+        allDifferent(x);
+        allDifferentIs(x, "at first");
+        x.addRoll(10000, 1);
+        allDifferentIs(x, "after addRoll");
+        x.undo();
+        allDifferentIs(x, "after undo()");
+        x.addRoll(10000, 1);
+        x.addPallet(50, 50, 30, 5000, 0);
+        x.wrap();
+        Checks.due("total(7)", x.total(7), 8);
+        x.undo();
+        allDifferentIs(x, "after undo() of wrap()");
+        x.undo();
+        x.undo();
+        allDifferentIs(x, "after all that is undone");
+    }
+
+    /** What a pallet before it came to is not left over, neither where it is kept nor where it is tried. */
+    private static void nothingIsLeftOver() {
+        Checks.sentence(0, "The latest 6 that are done are kept.");
+        PalletWrapper x = new PalletWrapper();
+        for (int round = 0; round < 4; round++) {
+            allDifferent(x);
+        }
+        x.clearText();
+        x.load();
+        for (int pallet = 0; pallet < 7; pallet++) {
+            x.addPallet(50, 50, 40, 5000, 0);
+            int[] due = {8 + pallet, 0, 0, 0, 0, 0, 0, 0, 0, 0, 0, 0, 4};
+            for (int what = 0; what <= 9; what++) {
+                Checks.due("ifWrap(" + what + ") without steps", x.ifWrap(what), 0);
+            }
+            x.wrap();
+            for (int what = 0; what <= 12; what++) {
+                Checks.due("done(0, " + what + ") without steps", x.done(0, what), due[what]);
+            }
+            Checks.due("zone(0, 2, 0) without steps", x.zone(0, 2, 0), 0);
+            Checks.due("zone(0, 2, 1) without steps", x.zone(0, 2, 1), 0);
+        }
+        int[] totals = {4 * 1584, 4 * 300, 4 * 979, 4 * 185, 4 * 120, 4 * 4, 4 * 5, 4 * 3, 4 * 2, 4};
+        for (int what = 0; what <= 9; what++) {
+            Checks.due("total(" + what + ")", x.total(what), totals[what]);
+        }
     }
 
     private static void none(PalletWrapper x) {

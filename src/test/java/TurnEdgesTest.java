@@ -162,6 +162,12 @@ final class TurnEdgesTest {
         beside.addPallet(50, 50, 100, 141, 0);
         comesTo(beside, "at 49", 0, 2, 1, 200);
         forcesAre(beside, "at 49", 141, 141, 141, 141, 141, 141, 141, 141, 141, 141);
+        // The other way: at 50 all that is borne, at 1 zone 5 is covered, at 0 it is not.
+        PalletWrapper above = Wrappers.withProgram("tension 100, up 50, down 49");
+        above.addRoll(5000, 1);
+        above.addPallet(50, 50, 100, 141, 0);
+        comesTo(above, "from 50 to 1 and 0", 0, 2, 1, 200);
+        forcesAre(above, "from 50 to 1 and 0", 141, 141, 141, 141, 141, 141, 141, 141, 141, 141);
     }
 
     private static void skipped() {
