@@ -227,6 +227,10 @@ final class TextEdgesTest {
             faultIs("stay 01, " + step, 9, 0);
             faultIs("stay 1, down 22, " + step, 17, 0);
         }
+        // There is no step before the first comma.
+        faultIs(", up 2", 0, 0);
+        faultIs(", stay 1, up 2", 0, 0);
+        faultIs(",up 2", 0, 0);
         Checks.sentence(0, "The empty text is the program without steps.");
         faultIs("", NOT_FOUND, 0);
         faultIs(" ", 0, 0);
