@@ -21,6 +21,7 @@ public final class AllTests {
         DoneEdgesTest.run();
         PlanEdgesTest.run();
         HistoryEdgesTest.run();
+        ReadmeTest.run();
         SentencesTest.run();
         RandomRunsTest.run();
         System.out.println(Checks.passed() + " checks passed, " + Checks.failed() + " checks failed");
